@@ -1270,14 +1270,16 @@ public final class AcTerms {
                 }
                 return;
             }
-            boolean least = true;
-            for (int v = 0; least && v <= left && count <= limit; v++) {
+            boolean above = false;
+            for (int v = 0; !above && v <= left && count <= limit; v++) {
                 if (v > 0) {
                     change(k, 1);
-                    least = !isAboveOne();
                 }
-                if (least && canEnd(k + 1, left - v)) {
-                    search(k + 1, left - v);
+                if (canEnd(k + 1, left - v)) {
+                    above = v > 0 && isAboveOne();
+                    if (!above) {
+                        search(k + 1, left - v);
+                    }
                 }
             }
             change(k, -current[k]);
