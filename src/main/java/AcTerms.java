@@ -874,6 +874,7 @@ public final class AcTerms {
             return true;
         }
 
+        /** The mask keeps it below MOST_PATTERN_VARIABLES even for a VARIABLE that is not in the PATTERN. */
         private int rankOf(int variable) {
             return Integer.bitCount(variables & (1 << variable) - 1) & MOST_PATTERN_VARIABLES - 1;
         }
@@ -998,9 +999,11 @@ public final class AcTerms {
         private boolean alike(int p, int id) {
             Term term = pattern.terms[p];
             Term other = inside.terms[id];
+            if (other == null || term.kind != other.kind || term.number != other.number) {
+                return false;
+            }
             int parts = term.parts.length;
-            return term.kind == other.kind && term.number == other.number
-                    && (term.kind == FUNCTION ? parts == other.parts.length : parts <= other.parts.length);
+            return term.kind == FUNCTION ? parts == other.parts.length : parts <= other.parts.length;
         }
 
         /** Makes a PATTERN's TERM EQUAL to that of a number as far as there is no choice; false: it can't be. */
@@ -1121,7 +1124,7 @@ public final class AcTerms {
         /** The open kid with the fewest ways to go on, or not many more; -1: none is open. */
         private int choice(int frame) {
             int best = -1;
-            int fewest = Integer.MAX_VALUE;
+            int fewest = 1 << MOST_PARTS;
             for (int p = 0; p < pattern.size; p++) {
                 int bits = open[frame * MOST_NODES + p];
                 for (int k = 0; bits != 0 && k < pattern.kids[p]; k++) {
@@ -1482,7 +1485,7 @@ public final class AcTerms {
             return sets;
         }
 
-        /** Ways to choose of the BASES ahead of one that give nothing to some VARIABLES and 1 to each that is lacking. */
+        /** Ways to choose of the BASES ahead of one, so that some VARIABLES get nothing and each that is lacking 1. */
         private int waysWithout(int from, int out, int lacking) {
             for (int j = 0; j < unknowns; j++) {
                 choices[j] = 0;

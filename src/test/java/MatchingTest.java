@@ -11,6 +11,8 @@ public final class MatchingTest {
         stays();
         matched();
         instance();
+        deepFunctions();
+        deepSums();
         Run.end();
     }
 
@@ -176,5 +178,58 @@ public final class MatchingTest {
         Run.due("MATCHER -1", terms.instance(-1, 0, 6), -1);
         Run.due("SLOT 16", terms.instance(0, 16, 6), -1);
         Run.due("BAD ahead of NONE", terms.instance(0, 15, -1), -1);
+    }
+
+    /** A FUNCTION in a FUNCTION, 39 times, is as deep as a TERM can be. */
+    private static void deepFunctions() {
+        Run run = new Run();
+        AcTerms terms = run.terms;
+        run.read("f(f(f(f(f(f(f(f(x))))))))", 0);
+        run.read("f(x)", 1);
+        run.read("x", 2);
+        run.read("a", 3);
+        for (int nodes = 1; nodes < 40; nodes += nodes < 33 ? 8 : 1) {
+            Run.due("match", terms.match(2, 3), 1);
+            Run.due("instance", terms.instance(0, nodes < 33 ? 0 : 1, 3), nodes < 33 ? nodes + 8 : nodes + 1);
+        }
+        Run.due("match", terms.match(2, 3), 1);
+        Run.due("41 NODES", terms.instance(0, 1, 3), -4);
+        Run.due("print", terms.print(3), 39 * 3 + 1);
+        Run.due("its only CONSTANT", terms.out(2 * 39), 'a');
+        Run.due("EQUAL to itself", terms.order(3, 3), 0);
+        Run.due("match by 8 FUNCTIONS", terms.match(0, 3), 1);
+        Run.due("what is put", terms.matched(0, 3, 4), 32);
+        Run.due("less deep", terms.order(3, 4), 2);
+        Run.due("less deep", terms.order(4, 3), 1);
+        Run.due("match with itself", terms.match(3, 3), 1);
+        Run.due("PART", terms.part(3, 0, 4), 39);
+        Run.due("match with a PART", terms.match(3, 4), 0);
+    }
+
+    /** SUMS of PRODUCTS of SUMS, by turns, are as deep as a PATTERN can be. */
+    private static void deepSums() {
+        Run run = new Run();
+        AcTerms terms = run.terms;
+        String[] letters = {"x", "y", "z", "P"};
+        String[] puts = {"a", "b", "c", "d"};
+        run.read("x", 0);
+        run.read("a", 1);
+        for (int n = 1; n < 20; n++) {
+            run.read(letters[n % 4], 2);
+            run.read(puts[n % 4], 3);
+            Run.due("join", terms.join(0, 2, n % 2, 0), 2 * n + 1);
+            Run.due("join", terms.join(1, 3, n % 2, 1), 2 * n + 1);
+        }
+        int found = terms.match(0, 1);
+        Run.due("match", found > 0 ? 1 : 0, 1);
+        int seen = 0;
+        for (int i = 0; i < found; i++) {
+            Run.due("NODES", terms.instance(i, 0, 4), 39);
+            Run.due("instance EQUAL to the TERM", terms.order(4, 1), 0);
+            terms.matched(i, 3, 5);
+            seen += run.printed(5).equals("a") ? 1 : 0;
+        }
+        Run.due("x may be a", seen > 0 ? 1 : 0, 1);
+        Run.due("a deep TERM is only itself", terms.match(1, 1), 1);
     }
 }

@@ -1,11 +1,12 @@
 import java.util.ArrayList;
+import java.util.Arrays;
 import java.util.List;
 import java.util.Map;
 import java.util.Random;
+import java.util.TreeMap;
 
 /** The answers to many small inputs, made from a fixed seed, against those of Plain. */
 public final class OracleTest {
-    private static final String VARIABLES = "uvwxyzABCDEFGHIJKLMNOP";
     private static final Random RANDOM = new Random(20261116);
 
     public static void main(String[] args) {
@@ -125,7 +126,7 @@ public final class OracleTest {
         Plain plain = Plain.read(pattern);
         Plain term = Plain.read(shortTerm(3, "", 9));
         for (int tries = 0; upTo(9) > 0 && tries < 20; tries++) {
-            Map<Integer, Plain> puts = new java.util.TreeMap<>();
+            Map<Integer, Plain> puts = new TreeMap<>();
             for (int variable : plain.variables()) {
                 puts.put(variable, Plain.read(term(upTo(1), "")));
             }
@@ -182,9 +183,9 @@ public final class OracleTest {
             }
         }
         int[] bounds = new int[rows[0].length];
-        java.util.Arrays.fill(bounds, span);
+        Arrays.fill(bounds, span);
         List<int[]> due = Plain.basis(rows, bounds, span);
-        String call = "solve(" + span + ") of " + java.util.Arrays.deepToString(rows);
+        String call = "solve(" + span + ") of " + Arrays.deepToString(rows);
         int found = run.terms.solve(span);
         Run.due(call, found, due.size() > 100 ? -4 : due.size());
         for (int i = 0; i < Math.min(found, 60); i++) {
@@ -234,21 +235,17 @@ public final class OracleTest {
         for (int n = 0; n < 20; n++) {
             int i = n == 0 ? found - 1 : upTo(found - 1);
             Run.due(call + ", set " + i, run.terms.set(i), due.sets.get(i));
-            unified(run, due.puts(due.sets.get(i)), i, Plain.read(left));
+            unified(run, due.puts(due.sets.get(i)), i, Plain.read(left), 0);
             Run.due(call + ", unified EQUAL", run.terms.unified(i, 0, 3) < 0 || run.terms.unified(i, 1, 4) < 0 ? 0
                     : run.terms.order(3, 4), 0);
         }
         String text = shortTerm(3, "uxyzvA", 30);
         run.read(text, 5);
-        unifiedAt(run, due.puts(due.sets.get(0)), 0, Plain.read(text), 5);
+        unified(run, due.puts(due.sets.get(0)), 0, Plain.read(text), 5);
         Run.due(call + ", behind the last one", run.terms.set(found), -1);
     }
 
-    private static void unified(Run run, Map<Integer, Plain> puts, int i, Plain term) {
-        unifiedAt(run, puts, i, term, 0);
-    }
-
-    private static void unifiedAt(Run run, Map<Integer, Plain> puts, int i, Plain term, int slot) {
+    private static void unified(Run run, Map<Integer, Plain> puts, int i, Plain term, int slot) {
         Plain put = term.with(puts);
         String call = "unified of " + term + " by " + puts;
         int before = run.terms.told(2, 3);
