@@ -5,6 +5,9 @@ import java.util.List;
 final class Run {
     private static int asked = 0;
     private static int wrong = 0;
+    /** The words of the document that the answers test, and how many were asked ahead of them. */
+    private static String sentence = "";
+    private static int askedAhead = 0;
 
     final AcTerms terms = new AcTerms();
 
@@ -12,7 +15,7 @@ final class Run {
         asked++;
         if (got != want) {
             wrong++;
-            System.out.println(what + " answered " + got + ", due is " + want);
+            System.out.println(shown(what) + " answered " + got + ", due is " + want);
         }
     }
 
@@ -20,11 +23,34 @@ final class Run {
         asked++;
         if (!got.equals(want)) {
             wrong++;
-            System.out.println(what + " answered \"" + got + "\", due is \"" + want + "\"");
+            System.out.println(shown(what) + " answered \"" + got + "\", due is \"" + want + "\"");
         }
     }
 
+    private static String shown(String what) {
+        return sentence.isEmpty() ? what : "[" + sentence + "] " + what;
+    }
+
+    /** Names the words of the document that the answers from here on test; those named before must have had some. */
+    static void sentence(String words) {
+        if (!sentence.isEmpty() && asked == askedAhead) {
+            due("answers asked", 0, 1);
+        }
+        sentence = words;
+        askedAhead = asked;
+    }
+
+    /** A new object whose SLOTS from 0 on have these TERMS. */
+    static Run with(String... texts) {
+        Run run = new Run();
+        for (int slot = 0; slot < texts.length; slot++) {
+            due("read of " + texts[slot], run.read(texts[slot], slot) > 0 ? 1 : 0, 1);
+        }
+        return run;
+    }
+
     static void end() {
+        sentence("");
         System.out.println(asked + " answers, " + wrong + " of them wrong");
         if (wrong != 0 || asked == 0) {
             System.exit(1);
@@ -56,8 +82,10 @@ final class Run {
 
     String out() {
         StringBuilder text = new StringBuilder();
-        for (int i = 0; terms.out(i) != AcTerms.NONE; i++) {
-            text.append((char) terms.out(i));
+        int next = terms.out(0);
+        while (next != AcTerms.NONE) {
+            text.append((char) next);
+            next = terms.out(text.length());
         }
         return text.toString();
     }
