@@ -301,6 +301,17 @@ public final class MatchingEdgesTest {
         run.read("x+y", 0);
         run.read("a+b+c+d+e+f(a)", 1);
         Run.due("62", run.terms.match(0, 1), -4);
+        run.read("f(x)+f(y)+f(z)+w", 0);
+        run.read("f(a)+f(b)+f(c)+f(d)+f(e)", 1);
+        Run.due("60 by PARTS that are no VARIABLES", run.terms.match(0, 1), -4);
+        run.read("f(x)+g(y+z)+w", 0);
+        run.read("f(a)+f(b)+f(c)+f(d)+g(a+a+b+b+b+b)", 1);
+        Run.due("52 by 4 of these and 13 of VARIABLES", run.terms.match(0, 1), -4);
+        run.read("f(a)+f(b)+f(c)+f(d)+f(e)+g(a+a+a+b+b)", 1);
+        Run.due("50 by 5 of these and 10 of VARIABLES", run.terms.match(0, 1), 50);
+        Run.due("the last one", run.terms.instance(49, 0, 2), 18);
+        Run.due("it makes the PATTERN EQUAL", run.terms.order(1, 2), 0);
+        run.read("x+y", 0);
         run.read("a+b+c+d+e", 1);
         Run.due("30 behind FULL", run.terms.match(0, 1), 30);
         Run.due("they are there", run.terms.matched(29, 3, 2), 5);
