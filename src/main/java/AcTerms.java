@@ -946,7 +946,7 @@ public final class AcTerms {
             }
             int kid = choice(frame);
             if (kid < 0) {
-                record(frame * WIDTH);
+                enlist(frame * WIDTH);
             } else if (pattern.terms[kid].kind == VARIABLE) {
                 tryRows(frame, kid);
             } else {
@@ -1013,7 +1013,7 @@ public final class AcTerms {
             }
             Term term = pattern.terms[p];
             if (term.kind == VARIABLE) {
-                return bound(frame, term.number, inside.values[id]);
+                return bound(frame, pattern.rankOf(term.number), inside.values[id]);
             }
             if (depth >= DEEPEST || !alike(p, id)) {
                 return false;
@@ -1032,8 +1032,8 @@ public final class AcTerms {
             return rest != Row.MISSING;
         }
 
-        private boolean bound(int frame, int variable, long value) {
-            int at = frame * WIDTH + pattern.rankOf(variable);
+        private boolean bound(int frame, int rank, long value) {
+            int at = frame * WIDTH + rank;
             if (values[at] == 0) {
                 values[at] = value;
             }
@@ -1117,7 +1117,7 @@ public final class AcTerms {
             if (Row.size(row) * pattern.times[last] != size) {
                 return false;
             }
-            return variable ? bound(frame, pattern.terms[last].number, inside.valueOf(row))
+            return variable ? bound(frame, pattern.rankOf(pattern.terms[last].number), inside.valueOf(row))
                     : assigned(frame, last, Row.at(row, 0), 0);
         }
 
@@ -1153,7 +1153,7 @@ public final class AcTerms {
         }
 
         /** Puts the frame's values among the MATCHERS, by ORDER. */
-        private void record(int from) {
+        private void enlist(int from) {
             if (count >= MOST_MATCHERS) {
                 count = MOST_MATCHERS + 1;
                 return;

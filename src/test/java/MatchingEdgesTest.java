@@ -73,7 +73,7 @@ public final class MatchingEdgesTest {
     }
 
     private static void fourVariables() {
-        Run.sentence("a PATTERN (a TERM of at most 4 different VARIABLES)");
+        Run.sentence("MATCHERS of a PATTERN (a TERM of at most 4 different VARIABLES)");
         Run.due("none", matchers("a+b", "b+a"), 1);
         Run.due("4", matchers("f(u,x+P,f(z))", "f(a,a+b,f(c))"), 2);
         Run.due("4 that stand there 8 times", matchers("f(u+u,P*P,g(x,z,x*z))", "f(a+a,b*b,g(c,d,c*d))"), 1);
@@ -235,7 +235,8 @@ public final class MatchingEdgesTest {
     }
 
     private static void numbered() {
-        Run.sentence("numbered, from 0 on, by ORDER of what is put for the least VARIABLE, of EQUAL ones for the next one");
+        Run.sentence("They are numbered, from 0 on, by ORDER of what is put for the least VARIABLE, "
+                + "of EQUAL ones for the next one, and so on");
         finds("P+x", "a+b", "xP", "x=a P=b", "x=b P=a");
         finds("u+P+z", "a+a+b", "uzP", "u=a z=a P=b", "u=a z=b P=a", "u=b z=a P=a");
         finds("f(x,w+v+u)", "f(e,a+b+c)", "uvwx", "u=a v=b w=c x=e", "u=a v=c w=b x=e", "u=b v=a w=c x=e",
@@ -274,11 +275,17 @@ public final class MatchingEdgesTest {
     }
 
     private static void not() {
-        Run.sentence("NOT: the PATTERN has more than 4 different VARIABLES, the TERM has one");
+        Run.sentence("BAD; NONE; NOT: the PATTERN has more than 4 different VARIABLES, the TERM has one");
         Run.due("4 and none", matchers("u+v+w+x", "a+a+a+a"), 1);
         Run.due("5 and none", matchers("u+v+w+x+y", "a+a+a+a+a"), -3);
         Run.due("4 and one", matchers("u+v+w+x", "a+a+a+y"), -3);
         Run.due("5 and one", matchers("u+v+w+x+y", "a+a+a+a+y"), -3);
+        Run run = Run.with("u+v+w+x+y", "a+z");
+        Run.due("NONE ahead of NOT, the PATTERN", run.terms.match(0, 9), -2);
+        Run.due("NONE ahead of NOT, the TERM", run.terms.match(9, 1), -2);
+        Run.due("BAD ahead of NOT, the PATTERN", run.terms.match(0, 16), -1);
+        Run.due("BAD ahead of NOT, the TERM", run.terms.match(-1, 1), -1);
+        Run.due("BAD ahead of NONE", run.terms.match(9, 16), -1);
     }
 
     private static void full() {

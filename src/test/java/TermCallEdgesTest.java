@@ -96,7 +96,7 @@ public final class TermCallEdgesTest {
     // ---- promise 2
 
     private static void lowestBytes() {
-        Run.sentence("The n lowest bytes (1 .. 8) of w, of these the highest first, come behind THE TEXT");
+        Run.sentence("The n lowest bytes (1 .. 8) of w, of these the highest first, come behind THE TEXT: how many it has");
         Run run = new Run();
         long w = Run.packed("g(a,b,c)");
         Run.due("8 bytes", run.terms.type(w, 8), 8);
@@ -160,7 +160,7 @@ public final class TermCallEdgesTest {
     // ---- promise 3
 
     private static void emptyThen() {
-        Run.sentence("THE TEXT, which is empty then (not by BAD)");
+        Run.sentence("THE TEXT, which is empty then (not by BAD), becomes the TERM of a SLOT");
         Run run = new Run();
         run.typed("a");
         Run.due("by a TERM", run.terms.read(0), 1);
@@ -211,7 +211,8 @@ public final class TermCallEdgesTest {
     // ---- promise 4
 
     private static void told() {
-        Run.sentence("1 its number (SUMS, PRODUCTS: 0), 2 PARTS (0), 3 NODES, 4 different VARIABLES in it");
+        Run.sentence("Of a SLOT's TERM: 0 what it is (0 VARIABLE, 1 CONSTANT, 2 FUNCTION, 3 SUM, 4 PRODUCT), "
+                + "1 its number (SUMS, PRODUCTS: 0), 2 PARTS (0), 3 NODES, 4 different VARIABLES in it");
         String all = "h(u+v+w+x+y+z+A+B,C+D+E+F+G+H+I+J,K+L+M+N+O+P)";
         tells("u", 0, 0, 0, 1, 1);
         tells("P", 0, 21, 0, 1, 1);

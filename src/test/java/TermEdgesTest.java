@@ -253,7 +253,8 @@ public final class TermEdgesTest {
 
     /** Of SUMS, or of PRODUCTS where the sign is theirs. */
     private static void orderOfSums(String sign) {
-        Run.sentence("SUMS, PRODUCTS (each by how many PARTS, fewer first, then by the least PARTS, the second least ones, ..");
+        Run.sentence("SUMS, PRODUCTS (each by how many PARTS, fewer first, then by the least PARTS, "
+                + "the second least ones, ..: the first that are not EQUAL)");
         compared("h(a,b,c)", "u" + sign + "u", 1);
         compared("e+e+e+e+e+e+e+e", "u*u", 1);
         compared(inSign("ee", sign), inSign("uuu", sign), 1);
@@ -318,7 +319,13 @@ public final class TermEdgesTest {
     }
 
     private static void oneToThree() {
-        Run.sentence("a FUNCTION ( TERM ) with one to three TERMS and a , between two, or ( TERM )");
+        Run.sentence("ATOM: a VARIABLE, a CONSTANT, a FUNCTION ( TERM ) with one to three TERMS and a , between two, "
+                + "or ( TERM )");
+        for (char c = 33; c <= 126; c++) {
+            boolean letter = c >= 'A' && c <= 'P' || c >= 'a' && c <= 'e' || c >= 'u' && c <= 'z';
+            boolean opens = c >= 'f' && c <= 'h' || c == '(';
+            Run.due(c + " alone", read(String.valueOf(c)), letter ? 1 : opens ? -11 : -10);
+        }
         Run.due("no TERM", read("h()"), -12);
         Run.due("one", read("h(a+b)"), 4);
         Run.due("two", read("h(a+b,c*d)"), 7);
@@ -413,7 +420,8 @@ public final class TermEdgesTest {
     }
 
     private static void printedByNumbers() {
-        Run.sentence("letters, FUNCTIONS as f(..,..), PARTS of SUMS and PRODUCTS by numbers with + or * between");
+        Run.sentence("PRINTED is a TERM so: letters, FUNCTIONS as f(..,..), "
+                + "PARTS of SUMS and PRODUCTS by numbers with + or * between");
         prints("h(c)", "h(c)");
         prints("g(c,b)", "g(c,b)");
         prints("f(c,b,a)", "f(c,b,a)");

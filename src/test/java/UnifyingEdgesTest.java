@@ -131,7 +131,7 @@ public final class UnifyingEdgesTest {
     }
 
     private static void bothEmpty() {
-        Run.sentence("if both are empty, there is one UNIFIER, that puts each VARIABLE for itself");
+        Run.sentence("What is left (LEFT, RIGHT): if both are empty, there is one UNIFIER, that puts each VARIABLE for itself");
         Run run = of("x+a+f(b)", "f(b)+x+a", 0, 1);
         counts(run, 0, 0, 0);
         Run.due("its bits", run.terms.set(0), 0);
@@ -157,7 +157,7 @@ public final class UnifyingEdgesTest {
     }
 
     private static void unknownsInOrder() {
-        Run.sentence("the UNKNOWNS are the VARIABLES that are left, by numbers, then the GROUND ones left, by ORDER");
+        Run.sentence("Else the UNKNOWNS are the VARIABLES that are left, by numbers, then the GROUND ones left, by ORDER");
         Run run = of("z+u", "a*b+e", 0, 2);
         int[][] due = {{0, 1, 0, 1}, {0, 1, 1, 0}, {1, 0, 0, 1}, {1, 0, 1, 0}};
         for (int b = 0; b < 4; b++) {
@@ -205,7 +205,7 @@ public final class UnifyingEdgesTest {
     }
 
     private static void sixteenBases() {
-        Run.sentence("BASES 0, 1, .. in the order told (FULL: more than 16)");
+        Run.sentence("has BASES 0, 1, .. in the order told (FULL: more than 16)");
         Run run = of(SIXTEEN[0], SIXTEEN[1], 0, 32677);
         counts(run, 16, 16, 5);
         Run.due("BASE 15 is there", run.terms.base(15, 0), 1);
@@ -232,7 +232,8 @@ public final class UnifyingEdgesTest {
     }
 
     private static void good() {
-        Run.sentence("GOOD, if all numbers for each VARIABLE are 1 or more together, for each GROUND UNKNOWN just 1");
+        Run.sentence("A SET of USABLE BASES is GOOD, if all numbers for each VARIABLE are 1 or more together, "
+                + "for each GROUND UNKNOWN just 1");
         of("x+x", "a+b", 0, 0);
         of("x+y", "a", 0, 0);
         unifier(of("x", "a", 0, 1), 0, 1, "a");
@@ -248,7 +249,7 @@ public final class UnifyingEdgesTest {
     }
 
     private static void bits() {
-        Run.sentence("numbered from 0 on by their bits (BASE 0 the lowest; the lesser first)");
+        Run.sentence("UNIFIERS are the GOOD SETS, numbered from 0 on by their bits (BASE 0 the lowest; the lesser first)");
         Run run = of("x+y", "u+v", 0, 7);
         int[] sets = {6, 7, 9, 11, 13, 14, 15};
         for (int i = 0; i < sets.length; i++) {
@@ -263,7 +264,8 @@ public final class UnifyingEdgesTest {
     }
 
     private static void puts() {
-        Run.sentence("of what stands for the BASES of its SET, each as often as the BASE gives to that VARIABLE");
+        Run.sentence("It puts for a VARIABLE that is left the SUM (PRODUCT) of what stands for the BASES of its SET, "
+                + "each as often as the BASE gives to that VARIABLE");
         Run run = of("x+x+x", "y+y", 0, 1);
         put(run, 0, "x", "A+A");
         put(run, 0, "y", "A+A+A");
